@@ -74,6 +74,16 @@ public final class Promise02SetTest {
         RateLimits x = new RateLimits();
         Answers.due("set, high bits", x.set(0, 0, GOOD | 0xFFFFF000), 0);
         Answers.due("room(0)", x.room(0), 12);
+        for (int high = 1 << 12; high != 0; high <<= 1) {
+            RateLimits y = new RateLimits();
+            RateLimits z = new RateLimits();
+            for (RateLimits one : new RateLimits[] {y, z}) {
+                one.set(0, Answers.LOG, GOOD | (one == y ? high : 0));
+                one.set(1, Answers.SPACER, GOOD | (one == y ? high : 0));
+                one.askAll(3, 9);
+            }
+            Answers.same("set, high bit " + high, Answers.state(y), Answers.state(z));
+        }
         Answers.due("set, one high bit", x.set(1, 2, Answers.numbers(1, 7, 1) | 1 << 12), 0);
         Answers.due("room(1)", x.room(1), 7);
         Answers.due("set(0, 0, -1)", x.set(0, 0, -1), RateLimits.BAD_NUMBER);

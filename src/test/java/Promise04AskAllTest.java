@@ -45,8 +45,8 @@ public final class Promise04AskAllTest {
     /** An askAll that is granted is as an ask of each meter in the set, and of no other. */
     private static void everySet() {
         for (int set = 0; set < 16; set++) {
-            for (int high = 0; high < 2; high++) {
-                int bits = high == 0 ? set : set | 0xFFFFFFF0;
+            for (int high : new int[] {0, 0xFFFFFFF0, 0x7FFFFFF0, 16, Integer.MIN_VALUE}) {
+                int bits = set | high;
                 RateLimits x = mixed();
                 RateLimits y = mixed();
                 x.pass(4);
