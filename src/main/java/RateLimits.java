@@ -18,6 +18,9 @@ public final class RateLimits {
     private static final int LAST_TIME = 100000;
     private static final int FIRST_DUE = -1000000;
 
+    // One row of MOST_SPAN for each meter: no log looks further back than that.
+    private static final int LOG_LENGTH = METERS * MOST_SPAN;
+
     // A spacer's due time is never further ahead than burst * span, and the
     // other two kinds recover sooner than that.
     private static final int LONGEST_WAIT = MOST_BURST * MOST_SPAN;
@@ -31,9 +34,8 @@ public final class RateLimits {
     private final int[] grantedCosts = new int[METERS];
     private final int[] deniedAsks = new int[METERS];
 
-    // One row of MOST_SPAN for each meter: the costs granted 0, 1, 2, ... time
-    // units ago. No log looks further back than that.
-    private final int[] logged = new int[METERS * MOST_SPAN];
+    // In a meter's row stand the costs granted 0, 1, 2, ... time units ago.
+    private final int[] logged = new int[LOG_LENGTH];
 
     private int now = 0;
 

@@ -80,7 +80,7 @@ public final class LanguageTest {
         absent(text, "\\w\\([^()]*\\w\\(");
         Matcher made = Pattern.compile("[^\n]*\\bnew\\b[^\n]*").matcher(text);
         Pattern initialiser = Pattern.compile(
-            "    private final int\\[\\] \\w+ = new int\\[[A-Z_ *0-9]+\\];");
+            "    private final int\\[\\] \\w+ = new int\\[[A-Z_]+\\];");
         while (made.find()) {
             Answers.due("made in a field's initialiser: " + made.group(),
                 initialiser.matcher(made.group()).matches() ? 1 : 0, 1);

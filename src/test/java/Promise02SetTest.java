@@ -32,15 +32,13 @@ public final class Promise02SetTest {
 
     private static void wrongArguments() {
         RateLimits x = new RateLimits();
-        int[] badMeters = {-1, 4, 5, Integer.MIN_VALUE, Integer.MAX_VALUE};
-        for (int m : badMeters) {
+        for (int m : Answers.NOT_METERS) {
             Answers.due("set(" + m + ", 0, good)", x.set(m, 0, GOOD), RateLimits.BAD_METER);
             Answers.due("set(" + m + ", 3, good)", x.set(m, 3, GOOD), RateLimits.BAD_METER);
             Answers.due("set(" + m + ", 3, 0)", x.set(m, 3, 0), RateLimits.BAD_METER);
             Answers.due("set(" + m + ", 0, 0)", x.set(m, 0, 0), RateLimits.BAD_METER);
         }
-        int[] badKinds = {-1, 3, 4, Integer.MIN_VALUE, Integer.MAX_VALUE};
-        for (int k : badKinds) {
+        for (int k : Answers.NOT_KINDS) {
             Answers.due("set(0, " + k + ", good)", x.set(0, k, GOOD), RateLimits.BAD_KIND);
             Answers.due("set(3, " + k + ", 0)", x.set(3, k, 0), RateLimits.BAD_KIND);
         }

@@ -15,13 +15,11 @@ public final class Promise03AskTest {
         RateLimits x = new RateLimits();
         x.ask(0, 3);
         String before = Answers.state(x);
-        int[] badMeters = {-1, 4, Integer.MIN_VALUE, Integer.MAX_VALUE};
-        for (int m : badMeters) {
+        for (int m : Answers.NOT_METERS) {
             Answers.due("ask(" + m + ", 1)", x.ask(m, 1), RateLimits.BAD_METER);
             Answers.due("ask(" + m + ", 0)", x.ask(m, 0), RateLimits.BAD_METER);
         }
-        int[] badCosts = {0, -1, 21, Integer.MIN_VALUE, Integer.MAX_VALUE};
-        for (int cost : badCosts) {
+        for (int cost : Answers.NOT_COSTS) {
             for (int m = 0; m < 4; m++) {
                 Answers.due("ask(" + m + ", " + cost + ")", x.ask(m, cost), RateLimits.BAD_NUMBER);
             }

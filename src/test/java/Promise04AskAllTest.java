@@ -8,21 +8,11 @@ public final class Promise04AskAllTest {
         Answers.end();
     }
 
-    private static RateLimits mixed() {
-        RateLimits x = new RateLimits();
-        x.set(0, Answers.BUCKET, Answers.numbers(2, 12, 1));
-        x.set(1, Answers.LOG, Answers.numbers(1, 11, 5));
-        x.set(2, Answers.SPACER, Answers.numbers(1, 10, 3));
-        x.set(3, Answers.BUCKET, Answers.numbers(1, 9, 1));
-        return x;
-    }
-
     private static void wrongCosts() {
-        RateLimits x = mixed();
+        RateLimits x = Answers.mixed();
         String before = Answers.state(x);
-        int[] badCosts = {0, -1, 21, Integer.MIN_VALUE, Integer.MAX_VALUE};
         int[] sets = {0, 1, 15, 16, -1};
-        for (int cost : badCosts) {
+        for (int cost : Answers.NOT_COSTS) {
             for (int set : sets) {
                 Answers.due("askAll(" + set + ", " + cost + ")", x.askAll(set, cost),
                     RateLimits.BAD_NUMBER);
@@ -32,7 +22,7 @@ public final class Promise04AskAllTest {
     }
 
     private static void emptySet() {
-        RateLimits x = mixed();
+        RateLimits x = Answers.mixed();
         String before = Answers.state(x);
         int[] sets = {0, 16, 32, 0x7FFFFFF0, 0xFFFFFFF0, Integer.MIN_VALUE};
         for (int set : sets) {
@@ -47,8 +37,8 @@ public final class Promise04AskAllTest {
         for (int set = 0; set < 16; set++) {
             for (int high : new int[] {0, 0xFFFFFFF0, 0x7FFFFFF0, 16, Integer.MIN_VALUE}) {
                 int bits = set | high;
-                RateLimits x = mixed();
-                RateLimits y = mixed();
+                RateLimits x = Answers.mixed();
+                RateLimits y = Answers.mixed();
                 x.pass(4);
                 y.pass(4);
                 Answers.due("askAll(" + bits + ", 5)", x.askAll(bits, 5), 1);
@@ -70,7 +60,7 @@ public final class Promise04AskAllTest {
     private static void oneDoesNot() {
         for (int cost = 9; cost <= 13; cost++) {
             for (int set = 1; set < 16; set++) {
-                RateLimits x = mixed();
+                RateLimits x = Answers.mixed();
                 int would = cost <= 9 ? 15 : cost == 10 ? 7 : cost == 11 ? 3 : cost == 12 ? 1 : 0;
                 boolean all = (set & ~would) == 0;
                 Answers.due("askAll(" + set + ", " + cost + ")", x.askAll(set, cost), all ? 1 : 0);

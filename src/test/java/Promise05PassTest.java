@@ -12,8 +12,7 @@ public final class Promise05PassTest {
         RateLimits x = new RateLimits();
         x.ask(0, 7);
         String before = Answers.state(x);
-        int[] bad = {-1, 1001, Integer.MIN_VALUE, Integer.MAX_VALUE};
-        for (int units : bad) {
+        for (int units : Answers.NOT_UNITS) {
             Answers.due("pass(" + units + ")", x.pass(units), RateLimits.BAD_NUMBER);
         }
         Answers.same("refused pass", Answers.state(x), before);

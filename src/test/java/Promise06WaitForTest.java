@@ -12,14 +12,12 @@ public final class Promise06WaitForTest {
 
     private static void wrongArguments() {
         RateLimits x = new RateLimits();
-        int[] badMeters = {-1, 4, Integer.MIN_VALUE, Integer.MAX_VALUE};
-        for (int m : badMeters) {
+        for (int m : Answers.NOT_METERS) {
             Answers.due("waitFor(" + m + ", 1)", x.waitFor(m, 1), RateLimits.BAD_METER);
             Answers.due("waitFor(" + m + ", 0)", x.waitFor(m, 0), RateLimits.BAD_METER);
             Answers.due("waitFor(" + m + ", 20)", x.waitFor(m, 20), RateLimits.BAD_METER);
         }
-        int[] badCosts = {0, -1, 21, Integer.MIN_VALUE, Integer.MAX_VALUE};
-        for (int cost : badCosts) {
+        for (int cost : Answers.NOT_COSTS) {
             Answers.due("waitFor(0, " + cost + ")", x.waitFor(0, cost), RateLimits.BAD_NUMBER);
         }
     }

@@ -10,8 +10,7 @@ public final class Promise07RoomTest {
 
     private static void wrongMeters() {
         RateLimits x = new RateLimits();
-        int[] bad = {-1, 4, Integer.MIN_VALUE, Integer.MAX_VALUE};
-        for (int m : bad) {
+        for (int m : Answers.NOT_METERS) {
             Answers.due("room(" + m + ")", x.room(m), RateLimits.BAD_METER);
         }
     }

@@ -2,8 +2,7 @@
 public final class Promise09DeniedTest {
     public static void main(String[] args) {
         RateLimits x = new RateLimits();
-        int[] bad = {-1, 4, Integer.MIN_VALUE, Integer.MAX_VALUE};
-        for (int m : bad) {
+        for (int m : Answers.NOT_METERS) {
             Answers.due("denied(" + m + ")", x.denied(m), RateLimits.BAD_METER);
         }
         for (int kind = 0; kind <= 2; kind++) {

@@ -98,16 +98,29 @@ public final class RandomRunsTest {
     public static void main(String[] args) {
         for (int seed = 0; seed < RUNS; seed++) {
             RandomRunsTest run = new RandomRunsTest(seed);
-            for (int call = 0; call < CALLS; call++) {
-                run.oneCall("run " + seed + ", call " + call + ": ", call < 4);
+            int first = seed % 5 == 0 ? run.goToTheEndOfTime() : 0;
+            for (int call = first; call < CALLS; call++) {
+                run.oneCall("run " + seed + ", call " + call + ": ", call < first + 4);
             }
         }
         Answers.end();
     }
 
+    /** Without this no run would come near the last time; answers how many calls it took. */
+    private int goToTheEndOfTime() {
+        int calls = 100;
+        for (int i = 1; i < calls; i++) {
+            Answers.due("pass(1000)", limits.pass(1000), pass(1000));
+        }
+        int units = 1000 - random.nextInt(200);
+        Answers.due("pass(" + units + ")", limits.pass(units), pass(units));
+        return calls;
+    }
+
     private int mostly(int low, int high) {
         if (random.nextInt(40) == 0) {
-            return new int[] {low - 1, high + 1, random.nextInt()}[random.nextInt(3)];
+            return new int[] {low - 1, high + 1, Integer.MIN_VALUE, Integer.MAX_VALUE,
+                random.nextInt()}[random.nextInt(5)];
         }
         return low + random.nextInt(high - low + 1);
     }
